@@ -375,9 +375,11 @@ public final class SandRipples {
         if (now.textCount >= MOST_TEXTS) {
             return FULL;
         }
-        texts[now.textCount].take(reader);
+        int text = now.textCount;
+        texts[text].take(reader);
+        now.laws[texts[text].key] = text;
         now.textCount++;
-        return now.textCount - 1;
+        return text;
     }
 
     public int textTold(int text, int what) {
@@ -391,8 +393,7 @@ public final class SandRipples {
         if (key < LIFTS || key > MARKS) {
             return BAD;
         }
-        int text = lawOf(now, key);
-        return text < 0 ? NONE : text;
+        return now.laws[key];
     }
 
     // ---- sheets, slots
@@ -704,8 +705,8 @@ public final class SandRipples {
         int h = f.sand[cell];
         int s = h - f.sand[inRing(cell + f.way())];
         int pace = w.sea[PACE];
-        int law = lawOf(w, LIFTS);
-        int given = law < 0 ? pace : texts[law].value(stack, h, s, pace);
+        int law = w.laws[LIFTS];
+        int given = law == NONE ? pace : texts[law].value(stack, h, s, pace);
         int grains = within(given, 0, h);
         switch (f.kind) {
             case CROWDED: return grains / 2;
@@ -716,19 +717,19 @@ public final class SandRipples {
 
     private int slideOf(World w, int d) {
         int steep = w.sea[STEEP];
-        int law = lawOf(w, SLIDES);
-        if (law < 0) {
+        int law = w.laws[SLIDES];
+        if (law == NONE) {
             return d > steep ? 1 : 0;
         }
         return within(texts[law].value(stack, d, steep, 0), 0, d / 2);
     }
 
     private int marksOf(World w, Floor f) {
-        int law = lawOf(w, MARKS);
+        int law = w.laws[MARKS];
         int together = 0;
         for (int c = 0; c < CELLS; c++) {
             if (f.isCrest(c)) {
-                int given = law < 0 ? f.sand[c] : texts[law].value(stack, c, f.sand[c], 0);
+                int given = law == NONE ? f.sand[c] : texts[law].value(stack, c, f.sand[c], 0);
                 together += within(given, -MOST_MARK, MOST_MARK);
             }
         }
@@ -792,7 +793,7 @@ public final class SandRipples {
         return f;
     }
 
-    // ---- the tape and the laws
+    // ---- the tape
 
     private void feedNumber(int v) {
         for (int shift = 24; shift >= 0; shift -= 8) {
@@ -803,15 +804,6 @@ public final class SandRipples {
         }
     }
 
-    private int lawOf(World w, int key) {
-        for (int i = w.textCount - 1; i >= 0; i--) {
-            if (texts[i].key == key) {
-                return i;
-            }
-        }
-        return -1;
-    }
-
     /** What an image keeps. */
     private static final class World {
         private final Floor[] floors;
@@ -819,6 +811,7 @@ public final class SandRipples {
         private final int[] sea = {3, 2, 5, 4};
         private int z = 1;
         private int textCount = 0;
+        private final int[] laws = {NONE, NONE, NONE};
 
         private World(int mostFloors) {
             floors = new Floor[Math.max(mostFloors, 0)];
@@ -830,6 +823,7 @@ public final class SandRipples {
         private void become(World other) {
             becomeSea(other);
             z = other.z;
+            textCount = other.textCount;
             floorCount = other.floorCount;
             for (int i = 0; i < floorCount && i < floors.length && i < other.floors.length; i++) {
                 floors[i].become(other.floors[i]);
@@ -838,7 +832,7 @@ public final class SandRipples {
 
         private void becomeSea(World other) {
             System.arraycopy(other.sea, 0, sea, 0, sea.length);
-            textCount = other.textCount;
+            System.arraycopy(other.laws, 0, laws, 0, laws.length);
         }
 
         private int draw() {

@@ -109,6 +109,9 @@ public final class DoneTest {
         Due.is("turned(0, 1, 0)", 7, x.turned(0, 1, 0));
         Due.is("turned(0, 1, 1)", 1, x.turned(0, 1, 1));
         Due.is("turned(0, 0, 0)", 0, x.turned(0, 0, 0));
+        Due.heaps(x, 0, 0);
+        Due.is("all are unlike", 0, x.turned(0, 1, 0));
+        Due.is("all are unlike", 24, x.turned(0, 1, 1));
         Due.heaps(x, 0, 1, 2, 3);
         Due.heaps(x, 1, 2, 3, 1);
         Due.is("the least of several", 2, x.turned(0, 1, 0));

@@ -4,6 +4,8 @@ public final class FloorsTest {
         newObject();
         floor();
         toldOfSand();
+        toldOfOneCell();
+        toldIsRefused();
         toldOfKinds();
         as();
         turns();
@@ -65,6 +67,25 @@ public final class FloorsTest {
         Due.is("lean of slow rises", 18 - 6, x.told(0, 6));
         Due.heaps(x, 0, 3, 2, 1, 0);
         Due.is("lean of slow falls", 6 - 18, x.told(0, 6));
+    }
+
+    private static void toldOfOneCell() {
+        for (int c = 0; c < 24; c++) {
+            SandRipples x = new SandRipples();
+            x.floor(0);
+            Due.heaps(x, 0, 50);
+            x.heap(0, c, 51);
+            Due.is("the greatest on cell " + c, 51, x.told(0, 3));
+            Due.is("a crest on cell " + c, 1, x.told(0, 5));
+            Due.is("its mark", 51, x.told(0, 10));
+            x.heap(0, c, 49);
+            Due.is("the least on cell " + c, 49, x.told(0, 4));
+        }
+    }
+
+    private static void toldIsRefused() {
+        SandRipples x = new SandRipples();
+        x.floor(0);
         for (int what : new int[] {-1, 11, Integer.MIN_VALUE, Integer.MAX_VALUE}) {
             Due.is("told(0, " + what + ")", Due.BAD, x.told(0, what));
         }

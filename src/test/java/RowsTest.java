@@ -51,6 +51,7 @@ public final class RowsTest {
         // Cells 0, 2, 4 hold 4; 3 1; 2 2; 1 2 1; 1 1 2; then 1 1 1 and 1 on cell 6.
         Due.is("right", 0, checked(x, 1, 5, 1, 2, 1, 2, 2, 3, 1, 3, 1, 4));
         Due.is("right, fewer", 0, checked(x, 1, 2, 1, 2, 1, 2));
+        Due.is("the first floor", 0, checked(x, 0, 2, 24, 0, 24, 0));
         Due.is("none", 1, checked(x, 1, 1));
         Due.is("one is missing", 2, checked(x, 1, 1, 1));
         Due.is("one too many", 3, checked(x, 1, 1, 1, 2, 1));
@@ -108,10 +109,13 @@ public final class RowsTest {
         Due.is("back() without an image", Due.NO, x.back());
         Due.is("keep() without floors", 0, x.keep());
         x.floor(3);
+        x.run(0, 7);
         Due.is("back() to no floors", 0, x.back());
         Due.is("no floors", Due.BAD, x.told(0, 0));
         Due.is("a floor is new", 0, x.floor(4));
         Due.is("a floor is new", 4, x.told(0, 0));
+        Due.is("a floor is new", 0, x.told(0, 1));
+        Due.sandIs("a floor is new", x, 0, 20);
         x.heap(0, 7, 3);
         x.run(0, 2);
         x.seed(99);

@@ -33,7 +33,9 @@ public final class SheetsTest {
         Due.is("sheet(-1, -1, 0)", Due.BAD, x.sheet(-1, -1, 0));
         Due.is("the last place", 1, x.mark(0, 23, 5));
         Due.is("no place", Due.INDEX, x.mark(3, 0, 5));
+        x.mark(0, 0, 5);
         x.sheet(0, 0, 24);
+        Due.is("all are 0 again", 0, place(x, 0, 0));
         Due.is("all are 0 again", 0, place(x, 0, 23));
         x.sheet(0, 1, 3);
         x.mark(0, 1, Due.NONE);

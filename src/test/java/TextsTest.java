@@ -8,6 +8,7 @@ public final class TextsTest {
         faults();
         depths();
         values();
+        oneBehindAnother();
         wraps();
         marks();
         textTold();
@@ -96,7 +97,8 @@ public final class TextsTest {
             "2", "  !lift", "0", "3", "5", "lift ,", "6", "lift h\n", "4", "lift\th", "8", "lift h &", "7", "lift h&&h",
             "7", "lift h||h", "7", "lift 1<=2", "6", "lift h%2", "6", "lift (<)", "8", "lift (h))", "10", "lift ((h+s",
             "7", "lift 1 2", "0", "mar k", "5", "mark \u0000", "5", "lift \u00e9", "6", "lift h\u00ff",
-            "7", "slide  12345+", "8", "mark (h)12", "0", "\u0001", "8", "lift 1 +12345"};
+            "7", "slide  12345+", "8", "mark (h)12", "0", "\u0001", "8", "lift 1 +12345", "0", "gift h", "0", "nark h",
+            "0", "liftz", "0", "lifta", "5", "lift z", "5", "lift a", "0", "zlift h"};
         for (int i = 0; i < at.length; i += 2) {
             Due.is("'" + at[i + 1] + "'", -100 - Integer.parseInt(at[i]), Due.text(x, at[i + 1]));
         }
@@ -133,10 +135,28 @@ public final class TextsTest {
             "4=4&2", "1", "1|1<0", "1", "c", "5", "h", "40", "h-c*2", "30", "(h-c)*2", "70", "h/c*3", "24", "0-9999", "-99",
             "9999", "99", "0099", "99", "7", "7", "(0-1)&1", "1", "!(0-1)", "0", "0-1<0", "1", "3-(2-(1-5))", "-3",
             "2*(3+4)*5-60", "10", "1<2&2<3", "1", "1<2&3<3", "0", "8/(4/2)", "4", "1-1|0", "0", "h>39&h<41", "1",
-            "0-100", "-99", "0-98", "-98", "100", "99", "1+2<3+4", "1", "(1<2)+(2<3)", "2", "(1<2)<3", "1"};
+            "0-100", "-99", "0-98", "-98", "100", "99", "1+2<3+4", "1", "(1<2)+(2<3)", "2", "(1<2)<3", "1",
+            "(1|0)+1", "2", "(0|0)+5", "5", "2*(3|0)*4", "8", "(1&1)-3", "-2", "(2<3)*9", "9", "(7-2)*(1+1)", "10",
+            "(0|0|2)", "1", "(5)", "5", "1|(0)", "1", "0-(1|1)", "-1", "0&1|1", "1", "1|1&0", "1"};
         for (int i = 0; i < all.length; i += 2) {
             Due.is(all[i], Integer.parseInt(all[i + 1]), value(all[i]));
         }
+    }
+
+    /** What one text leaves behind in the reader is not seen in the next one. */
+    private static void oneBehindAnother() {
+        SandRipples x = new SandRipples();
+        x.floor(0);
+        x.heap(0, 5, 40);
+        Due.is("a text", 0, Due.text(x, "mark 1|2&3<4+5*6"));
+        Due.is("its marks", 1, x.told(0, 10));
+        Due.is("a fault", -113, Due.text(x, "mark 1|(2&!(7"));
+        Due.is("a text", 1, Due.text(x, "mark 3"));
+        Due.is("its marks", 3, x.told(0, 10));
+        Due.is("a fault", -112, Due.text(x, "mark ((1+2)*"));
+        Due.is("no bracket is open", -106, Due.text(x, "mark 3)"));
+        Due.is("a text", 2, Due.text(x, "mark 4*c"));
+        Due.is("its marks", 20, x.told(0, 10));
     }
 
     private static void wraps() {

@@ -229,6 +229,11 @@ public final class TicksTest {
         Due.is("flat(0, 19), round the ring", 0, x.flat(0, 19));
         Due.is("flat(0, 20)", 1, x.flat(0, 20));
         Due.is("flat(0, 99)", 1, x.flat(0, 99));
+        for (int c = 0; c < 24; c++) {
+            x.heap(0, c, c == 0 ? 10 : 58 - 2 * c);
+        }
+        Due.is("one step alone is steep", 0, x.flat(0, 45));
+        Due.is("one step alone is steep", 1, x.flat(0, 46));
         for (int d : new int[] {-1, 100, Integer.MIN_VALUE, Integer.MAX_VALUE}) {
             Due.is("flat(0, " + d + ")", Due.BAD, x.flat(0, d));
             Due.is("flat(" + d + ", 0)", Due.BAD, x.flat(d, 0));
