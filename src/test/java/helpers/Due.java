@@ -5,21 +5,27 @@ final class Due {
     static final int[] EXTREMES = {Integer.MIN_VALUE, -1000000, -1, Integer.MAX_VALUE, 1000000};
 
     private static int wrong = 0;
+    private static String sentence = "";
 
     private Due() {
+    }
+
+    /** What follows tests this sentence of the document: a wrong answer is told with it. */
+    static void sentence(String words) {
+        sentence = "  [" + words + "]";
     }
 
     static void is(String what, long want, long got) {
         if (got != want) {
             wrong++;
-            System.out.println(what + " answered " + got + ", due is " + want);
+            System.out.println(what + " answered " + got + ", due is " + want + sentence);
         }
     }
 
     static void holds(String what, boolean it) {
         if (!it) {
             wrong++;
-            System.out.println(what + " does not hold");
+            System.out.println(what + " does not hold" + sentence);
         }
     }
 
