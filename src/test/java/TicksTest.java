@@ -241,6 +241,7 @@ public final class TicksTest {
     }
 
     private static void soon() {
+        Due.sentence("SOON for n: after how many TICKS (0 .. 100) there are n CRESTS or more for the first time");
         SandRipples x = new SandRipples();
         x.floor(2);
         Due.is("soon(0, 0)", 0, x.soon(0, 0));
@@ -296,6 +297,7 @@ public final class TicksTest {
     }
 
     private static void period() {
+        Due.sentence("PERIOD: after how many TICKS (1 .. 100) all SAND is as it is now for the first time");
         SandRipples x = new SandRipples();
         x.floor(2);
         x.sea(3, 20);
