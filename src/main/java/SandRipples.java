@@ -604,7 +604,7 @@ public final class SandRipples {
     }
 
     public int keep() {
-        image.become(now);
+        image.becomeAll(now);
         imageKept = true;
         return now.floorCount;
     }
@@ -613,7 +613,7 @@ public final class SandRipples {
         if (!imageKept) {
             return NO;
         }
-        now.become(image);
+        now.becomeAll(image);
         return now.floorCount;
     }
 
@@ -820,7 +820,7 @@ public final class SandRipples {
             }
         }
 
-        private void become(World other) {
+        private void becomeAll(World other) {
             becomeSea(other);
             z = other.z;
             textCount = other.textCount;

@@ -12,6 +12,7 @@ public final class FaceTest {
         "crest 2", "apart 1", "flat 2", "soon 2", "period 1", "foot 3", "worm 2", "press 2", "unlike 2", "turned 3",
         "seen 3", "best 3", "feed 3", "trim 1", "text 0", "textTold 2", "why 1", "sheet 3", "mark 3", "pour 2",
         "reads 2", "copy 5", "lay 3", "ask 2", "item 2", "rest 2", "tell 1", "check 2", "keep 0", "back 0", "count 1"};
+    private static final String NAMES = " " + String.join(" ", METHODS) + " ";
 
     public static void main(String[] args) throws Exception {
         Due.holds("public final class", Modifier.isPublic(SandRipples.class.getModifiers())
@@ -76,7 +77,25 @@ public final class FaceTest {
         for (Class<?> c : SandRipples.class.getDeclaredClasses()) {
             Due.holds(c + " is static and not public", Modifier.isStatic(c.getModifiers())
                 && !Modifier.isPublic(c.getModifiers()) && !Modifier.isProtected(c.getModifiers()));
+            Due.holds(c + " has no classes inside", c.getDeclaredClasses().length == 0);
+            fields(c);
+            for (Method m : c.getDeclaredMethods()) {
+                Due.holds(m + " is private", Modifier.isPrivate(m.getModifiers()));
+                Due.holds(m + " bears a name of its own", !NAMES.contains(" " + m.getName() + " "));
+            }
         }
+        fields(SandRipples.class);
         Due.holds("at most twelve classes", SandRipples.class.getDeclaredClasses().length <= 11);
+    }
+
+    private static void fields(Class<?> c) {
+        int many = 0;
+        for (Field f : c.getDeclaredFields()) {
+            if (!Modifier.isStatic(f.getModifiers())) {
+                many++;
+                Due.holds(f + " is private", Modifier.isPrivate(f.getModifiers()));
+            }
+        }
+        Due.holds(c + " has at most twenty fields", many <= 20);
     }
 }
